@@ -1425,7 +1425,7 @@ public final class OneVerb {
                     facts[0] = place;
                     facts[1] = next;
                     if (reckon(VERB, verb) != 0) {
-                        law |= 1 << place * 4 + next;
+                        law |= 1 << (place * 4 + next);
                     }
                 }
             }
@@ -1481,7 +1481,7 @@ public final class OneVerb {
 
         private int bent(int thing, int bend, int place) {
             int way = bend >= 0 && bend < many[BEND] && isThing(thing) ? ways[bend * MOST_THINGS + thing] : STRAIGHT;
-            return way >> 2 * place & 3;
+            return way >> (2 * place) & 3;
         }
 
         /** The NOUN of a number, or NONE if its THING or BEND is not there. */
@@ -1512,17 +1512,27 @@ public final class OneVerb {
             return clause & (1 << NOUN_BITS) - 1;
         }
 
-        /** A bit for each two PLACES of the two THINGS, as in lawOf: whether the CLAUSE holds there. */
-        int tableOf(int first, int second, int verb) {
+        /** Where a NOUN is while its THING is at a PLACE. */
+        private static int placeOf(int noun, int place) {
+            return noun >> (3 + 2 * place) & 3;
+        }
+
+        /** The law of a VERB for the THINGS of two NOUNS: where there is none, nothing holds. */
+        private int lawOn(int first, int second, int verb) {
             if (first < 0 || second < 0 || verb < 0 || verb >= many[VERB]) {
                 return 0;
             }
-            int law = laws[lawIndex(verb, thingOf(first), thingOf(second))];
+            return laws[lawIndex(verb, thingOf(first), thingOf(second))];
+        }
+
+        /** A bit for each two PLACES of the two THINGS, as in lawOf: whether the CLAUSE holds there. */
+        int tableOf(int first, int second, int verb) {
+            int law = lawOn(first, second, verb);
             int table = 0;
             for (int place = 0; place < places; place++) {
-                int row = law >> (first >> 3 + 2 * place & 3) * 4;
+                int row = law >> 4 * placeOf(first, place);
                 for (int next = 0; next < places; next++) {
-                    table |= (row >> (second >> 3 + 2 * next & 3) & 1) << place * 4 + next;
+                    table |= (row >> placeOf(second, next) & 1) << (place * 4 + next);
                 }
             }
             return table;
@@ -1535,11 +1545,9 @@ public final class OneVerb {
         boolean clauseHolds(int clause, int verb, int world) {
             int first = nounOf(clause / NOUNS);
             int second = nounOf(clause % NOUNS);
-            if (first == NONE || second == NONE) {
-                return false;
-            }
-            int spot = placeIn(world, thingOf(first)) * 4 + placeIn(world, thingOf(second));
-            return (tableOf(first, second, verb) >> spot & 1) != 0;
+            int place = placeOf(first, placeIn(world, thingOf(first)));
+            int next = placeOf(second, placeIn(world, thingOf(second)));
+            return (lawOn(first, second, verb) >> (place * 4 + next) & 1) != 0;
         }
 
         private int placeIn(int world, int thing) {
@@ -1670,7 +1678,7 @@ public final class OneVerb {
         int least() {
             for (int i = 0; i < LONGS; i++) {
                 if (bits[i] != 0) {
-                    return i * 64 + Long.numberOfTrailingZeros(bits[i]);
+                    return i * 64 + Long.bitCount((bits[i] & -bits[i]) - 1L);
                 }
             }
             return NONE;
@@ -1914,8 +1922,9 @@ public final class OneVerb {
             for (int i = 0; i < LONGS; i++) {
                 long rest = worlds.bits[i];
                 for (int number = 0; rest != 0 && number < saidMany; number++) {
-                    if ((set >> number & 1) != 0) {
-                        rest &= said[number].bound.bits[i];
+                    Saying told = saidAt(number);
+                    if (told != null && (set >> number & 1) != 0) {
+                        rest &= told.bound.bits[i];
                     }
                 }
                 if (rest != 0) {
@@ -1928,18 +1937,19 @@ public final class OneVerb {
         /** Lets the ORDERS of a DAY come. */
         void keepOrdersOf(int dawning, WorldSet worlds) {
             for (int i = 0; i < orderMany; i++) {
-                if (orders[i].day == dawning) {
-                    worlds.keep(orders[i].bound);
+                Saying kept = orderAt(i);
+                if (kept != null && kept.day == dawning) {
+                    worlds.keep(kept.bound);
                 }
             }
         }
     }
 
-    /** Looks for LITERALS and CLAUSES that mean some WORLDS. */
+    /** Looks for LITERALS and CLAUSES that mean some WORLDS, the target. */
     private static final class Finder {
         private static final int ALONE = 0;
-        private static final int JOINED_BY_AND = 1;
-        private static final int JOINED_BY_OR = 2;
+        private static final int BY_AND = 1;
+        private static final int BY_OR = 2;
         private static final int FEWEST_WORDS = 2;
         /** Above the words of any two LITERALS. */
         private static final int NOT_FOUND = 99;
@@ -1953,39 +1963,51 @@ public final class OneVerb {
         private final long[] later = new long[CLAUSES * LONGS];
         private final int[] todays = new int[LITERALS];
         private final int[] laters = new int[LITERALS];
+        private final WorldSet outside = new WorldSet();
+        private final WorldSet rest = new WorldSet();
 
         Finder(Land land) {
             this.land = land;
         }
 
-        /** Whether WORLDS can be meant by a VERB in one LITERAL or two; words, joint, first, second tell how. */
+        /** Whether the target can be meant by a VERB in one LITERAL or two; words, joint, first, second tell how. */
         boolean findShortest(WorldSet target, int verb) {
             words = NOT_FOUND;
             spreadAll(verb, today);
+            findOutside(target);
             findAlone(target);
             // Two LITERALS have five words at least, and one has five at most and goes ahead.
             if (words == NOT_FOUND) {
-                findJoined(target, JOINED_BY_AND);
-                findJoined(target, JOINED_BY_OR);
+                findJoined(target, outside, BY_AND);
+                findJoined(outside, target, BY_OR);
             }
             return words != NOT_FOUND;
         }
 
+        private void findOutside(WorldSet target) {
+            outside.take(target);
+            outside.turn(land.worldMany);
+        }
+
         private void findAlone(WorldSet target) {
             for (int literal = 0; literal < LITERALS; literal++) {
-                if (wordsOf(literal) < words && land.isClause(literal / 2) && isMeant(target, literal)) {
+                if (land.isClause(literal / 2) && wordsOf(literal) < words
+                        && isApart(outside, today, literal) && isApart(target, today, literal ^ 1)) {
                     keepBest(ALONE, literal, NONE, wordsOf(literal));
                 }
             }
         }
 
-        private void findJoined(WorldSet target, int by) {
-            int many = by == JOINED_BY_AND ? listAbove(target, today, todays) : listBelow(target, today, todays);
+        /** Two joined by or leave out what their contraries share: so or is and, with all turned round. */
+        private void findJoined(WorldSet wanted, WorldSet unwanted, int by) {
+            int turned = by == BY_OR ? 1 : 0;
+            int many = listAbove(wanted, today, turned, todays);
             for (int i = 0; i < many; i++) {
                 int ahead = wordsOf(todays[i]) + 1;
+                findRest(unwanted, today, todays[i] ^ turned);
                 for (int j = i + 1; j < many && ahead + FEWEST_WORDS < words; j++) {
                     int all = ahead + wordsOf(todays[j]);
-                    if (all < words && isMeantBy(target, todays[i], todays[j], by)) {
+                    if (all < words && isApart(rest, today, todays[j] ^ turned)) {
                         keepBest(by, todays[i], todays[j], all);
                     }
                 }
@@ -2009,14 +2031,15 @@ public final class OneVerb {
         /** How many days ahead the second LITERAL is, or NONE; first, second tell which they are. */
         int findTwoDays(WorldSet target, int day) {
             spreadAll(land.verbOf(day), today);
-            int many = listAbove(target, today, todays);
+            findOutside(target);
+            int many = listAbove(target, today, 0, todays);
             int tried = 0;
             for (int ahead = 1; ahead <= DAYS_AHEAD; ahead++) {
                 int verb = land.verbOf(day + ahead);
                 if (verb != NONE && (tried >> verb & 1) == 0) {
                     tried |= 1 << verb;
                     spreadAll(verb, later);
-                    if (findTogether(target, many, listAbove(target, later, laters))) {
+                    if (findTogether(many, listAbove(target, later, 0, laters))) {
                         return ahead;
                     }
                 }
@@ -2024,10 +2047,11 @@ public final class OneVerb {
             return NONE;
         }
 
-        private boolean findTogether(WorldSet target, int many, int manyLater) {
+        private boolean findTogether(int many, int manyLater) {
             for (int i = 0; i < many; i++) {
+                findRest(outside, today, todays[i]);
                 for (int j = 0; j < manyLater; j++) {
-                    if (isMeantTogether(target, todays[i], laters[j])) {
+                    if (isApart(rest, later, laters[j])) {
                         first = todays[i];
                         second = laters[j];
                         return true;
@@ -2055,11 +2079,11 @@ public final class OneVerb {
             return literal % 2 == 0 ? worlds : ~worlds & land.wholeLong(i);
         }
 
-        /** Lists the LITERALS that leave all of the target: what two of them share may be it. */
-        private int listAbove(WorldSet target, long[] spread, int[] into) {
+        /** Lists the LITERALS that, turned round or not, hold in all that is wanted. */
+        private int listAbove(WorldSet wanted, long[] spread, int turned, int[] into) {
             int many = 0;
             for (int literal = 0; literal < LITERALS; literal++) {
-                if (land.isClause(literal / 2) && isAbove(target, spread, literal)) {
+                if (land.isClause(literal / 2) && isApart(wanted, spread, literal ^ turned ^ 1)) {
                     into[many] = literal;
                     many++;
                 }
@@ -2067,59 +2091,17 @@ public final class OneVerb {
             return many;
         }
 
-        private boolean isAbove(WorldSet target, long[] spread, int literal) {
+        /** What a LITERAL leaves of WORLDS that should not be there. */
+        private void findRest(WorldSet unwanted, long[] spread, int literal) {
             for (int i = 0; i < land.longs && i < LONGS; i++) {
-                if ((target.bits[i] & ~longOf(spread, literal, i)) != 0) {
-                    return false;
-                }
+                rest.bits[i] = unwanted.bits[i] & longOf(spread, literal, i);
             }
-            return true;
         }
 
-        /** Lists the LITERALS that leave nothing beside the target: what two of them make up may be it. */
-        private int listBelow(WorldSet target, long[] spread, int[] into) {
-            int many = 0;
-            for (int literal = 0; literal < LITERALS; literal++) {
-                if (land.isClause(literal / 2) && isBelow(target, spread, literal)) {
-                    into[many] = literal;
-                    many++;
-                }
-            }
-            return many;
-        }
-
-        private boolean isBelow(WorldSet target, long[] spread, int literal) {
+        /** Whether a LITERAL holds in none of these WORLDS. */
+        private boolean isApart(WorldSet worlds, long[] spread, int literal) {
             for (int i = 0; i < land.longs && i < LONGS; i++) {
-                if ((longOf(spread, literal, i) & ~target.bits[i]) != 0) {
-                    return false;
-                }
-            }
-            return true;
-        }
-
-        private boolean isMeant(WorldSet target, int literal) {
-            for (int i = 0; i < land.longs && i < LONGS; i++) {
-                if (longOf(today, literal, i) != target.bits[i]) {
-                    return false;
-                }
-            }
-            return true;
-        }
-
-        private boolean isMeantBy(WorldSet target, int one, int other, int by) {
-            for (int i = 0; i < land.longs && i < LONGS; i++) {
-                long a = longOf(today, one, i);
-                long b = longOf(today, other, i);
-                if ((by == JOINED_BY_AND ? a & b : a | b) != target.bits[i]) {
-                    return false;
-                }
-            }
-            return true;
-        }
-
-        private boolean isMeantTogether(WorldSet target, int one, int other) {
-            for (int i = 0; i < land.longs && i < LONGS; i++) {
-                if ((longOf(today, one, i) & longOf(later, other, i)) != target.bits[i]) {
+                if (worlds.bits[i] != 0 && (worlds.bits[i] & longOf(spread, literal, i)) != 0) {
                     return false;
                 }
             }
