@@ -530,7 +530,13 @@ final class Model {
 
     private record Literal(int number, int words, boolean[] set) { }
 
+    private final Map<Integer, List<Literal>> literalsKept = new HashMap<>();
+
     private List<Literal> literals(int verb) {
+        return literalsKept.computeIfAbsent(verb, this::findLiterals);
+    }
+
+    private List<Literal> findLiterals(int verb) {
         List<Literal> all = new ArrayList<>();
         for (int number = 0; number < 800; number++) {
             Tree clause = clauseOf(number / 2);
@@ -576,6 +582,7 @@ final class Model {
         }
         now = new State(0, List.of(), List.of(), null, List.of());
         deeds.clear();
+        literalsKept.clear();
         Arrays.fill(marks, null);
         return 0;
     }

@@ -76,10 +76,11 @@ final class ModelTest {
     // ---- texts
 
     private String landText() {
-        things = below(8) == 0 ? below(6) : 1 + below(3);
+        boolean big = below(12) == 0;
+        things = big ? 4 + below(2) : below(8) == 0 ? below(6) : 1 + below(3);
         bends = things < 4 ? below(4) : below(2);
         verbs = below(10) == 0 ? 0 : 1 + below(6);
-        int places = things > 3 ? 2 : 2 + below(3);
+        int places = big || things < 4 ? 2 + below(3) : 2;
         StringBuilder text = new StringBuilder("places " + places + ";");
         for (int i = 0; i < things; i++) {
             text.append("thing ").append("abcde".charAt(i)).append(" weigh ").append(below(100)).append(";\n");
@@ -189,7 +190,12 @@ final class ModelTest {
             case 0, 1, 2:
                 change();
                 break;
-            case 3, 4:
+            case 3:
+                if (below(4) == 0) {
+                    sayAndUndo();
+                }
+                break;
+            case 4:
                 small();
                 break;
             default:
@@ -237,6 +243,27 @@ final class ModelTest {
                     is("land() of " + text, x.land(), m.land());
                 }
                 break;
+        }
+    }
+
+    /** More SAYINGS than may be SAID, some UNSAID, more undone than can be. */
+    private void sayAndUndo() {
+        for (int i = below(16); i >= 0; i--) {
+            tell(formula(3) + ";");
+            is("say()", x.say(), m.say());
+            if (below(4) == 0) {
+                int saying = below(Math.max(m.count(7), 1));
+                is("unsay(" + saying + ")", x.unsay(saying), m.unsay(saying));
+            }
+            is("worlds(1)", x.worlds(1), m.worlds(1));
+        }
+        is("clash()", x.clash(), m.clash());
+        is("count(11)", x.count(11), m.count(11));
+        for (int i = below(16); i >= 0; i--) {
+            is("undo()", x.undo(), m.undo());
+            is("saying(0, 1)", x.saying(0, 1), m.saying(0, 1));
+            is("saying(5, 1)", x.saying(5, 1), m.saying(5, 1));
+            is("worlds(1)", x.worlds(1), m.worlds(1));
         }
     }
 
