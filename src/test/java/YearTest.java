@@ -1,0 +1,70 @@
+/** YEARS (promise 32): the answers were reckoned apart, by a script that knows this land alone. */
+final class YearTest {
+    private static final String LAND = "places 3;thing a weigh 1;thing b weigh 2;thing c weigh 3;verb at first=second;"
+        + "verb up first<second;verb ne not(first=second+1);week ne at silent up ne ne;";
+    private static final int[][] PLAIN = {
+        {0, 1, 0, 1, 27}, {0, 2, 1, 1, 27}, {0, 5, 2, 2, 21}, {0, 9, 5, 3, 5}, {0, 20, 11, 4, 3}, {0, 60, 31, 18, 3},
+        {1, 1, 1, 0, 21}, {1, 2, 2, 0, 7}, {1, 5, 3, 1, 7}, {1, 9, 5, 3, 7}, {1, 20, 13, 4, 3}, {1, 60, 35, 15, 1},
+        {7, 9, 6, 3, 9}, {7, 20, 12, 6, 3}, {7, 60, 33, 17, 3}, {123, 2, 2, 0, 9}, {123, 20, 15, 4, 1},
+        {123, 60, 41, 12, 1}, {9999, 1, 1, 0, 27}, {9999, 5, 4, 1, 6}, {9999, 60, 31, 14, 1}};
+    private static final int[][] ORDERED = {
+        {1, 3, 2, 1, 7}, {1, 4, 2, 1, 5}, {1, 6, 3, 2, 5}, {1, 8, 5, 2, 5}, {1, 20, 13, 4, 1}, {7, 3, 2, 1, 27},
+        {7, 4, 2, 2, 21}, {7, 6, 4, 2, 21}, {7, 7, 5, 2, 7}, {7, 20, 12, 6, 3}, {123, 6, 3, 2, 9}, {123, 7, 4, 2, 3},
+        {123, 20, 14, 4, 3}};
+    private static final int[][] FROM_DAY_5 = {{1, 9, 7, 2, 1}, {7, 9, 6, 2, 3}, {123, 9, 8, 1, 3}};
+    private static final Due DUE = new Due("YearTest");
+
+    public static void main(String[] args) {
+        OneVerb x = in(LAND);
+        years(x, PLAIN);
+        wrong(x);
+        Due.order(x, "a b;", 4);
+        Due.order(x, "c b;", 7);
+        years(x, ORDERED);
+        DUE.is("worlds(1): all is as ahead", x.worlds(1), 27);
+        DUE.is("count(6): all is as ahead", x.count(6), 0);
+        DUE.is("count(7): all is as ahead", x.count(7), 0);
+        DUE.is("count(11): all is as ahead", x.count(11), 2);
+        x.dawn(5);
+        years(x, FROM_DAY_5);
+        said();
+        OneVerb wordless = in("places 2;thing a weigh 1;");
+        DUE.is("year(1, 5, 0) without verbs", wordless.year(1, 5, 0), -1);
+        OneVerb empty = in("places 2;verb v 1;");
+        DUE.is("year(1, 5, 0) without things", empty.year(1, 5, 0), -1);
+        DUE.end();
+    }
+
+    private static OneVerb in(String land) {
+        OneVerb x = new OneVerb();
+        DUE.is("land() of " + land, Due.land(x, land), 0);
+        return x;
+    }
+
+    private static void years(OneVerb x, int[][] dues) {
+        for (int[] due : dues) {
+            for (int what = 0; what < 3; what++) {
+                String call = "year(" + due[0] + ", " + due[1] + ", " + what + ") on day " + x.count(6);
+                DUE.is(call, x.year(due[0], due[1], what), due[2 + what]);
+            }
+        }
+    }
+
+    private static void wrong(OneVerb x) {
+        DUE.is("year(-1, 5, 0)", x.year(-1, 5, 0), -1);
+        DUE.is("year(10000, 5, 0)", x.year(10000, 5, 0), -1);
+        DUE.is("year(1, 0, 0)", x.year(1, 0, 0), -1);
+        DUE.is("year(1, 61, 0)", x.year(1, 61, 0), -1);
+        DUE.is("year(1, 5, 3)", x.year(1, 5, 3), -1);
+        DUE.is("year(1, 5, -1)", x.year(1, 5, -1), -1);
+    }
+
+    /** What is SAID has left its mark already: where nothing is LEFT nothing is told. */
+    private static void said() {
+        OneVerb x = in(LAND);
+        Due.say(x, "a b and not a b;");
+        DUE.is("year(1, 20, 0) of nothing left", x.year(1, 20, 0), 0);
+        DUE.is("year(1, 20, 1) of nothing left", x.year(1, 20, 1), 4);
+        DUE.is("year(1, 20, 2) of nothing left", x.year(1, 20, 2), 0);
+    }
+}
