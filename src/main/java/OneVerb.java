@@ -69,7 +69,6 @@ public final class OneVerb {
     private final WorldSet worldsLeft = new WorldSet();
     private final WorldSet meantOnce = new WorldSet();
     private final WorldSet meantAgain = new WorldSet();
-    private final int[] sayableBy = new int[MOST_THINGS * MOST_PLACES];
     private long drawn;
 
     public OneVerb() {
@@ -351,20 +350,20 @@ public final class OneVerb {
         if (!land.isThing(thing) || !land.isPlace(place)) {
             return NONE;
         }
-        findSayable();
-        return sayableBy[thing * MOST_PLACES + place];
+        finder.findSayable();
+        return finder.sayableBy[thing * MOST_PLACES + place];
     }
 
     public int cover(int what) {
         if (what < 0 || what > 1) {
             return NONE;
         }
-        findSayable();
+        finder.findSayable();
         int best = 0;
         int fewest = MOST_VERBS + 1;
         for (int set = 0; set < 1 << land.many[VERB]; set++) {
             int many = Integer.bitCount(set);
-            if (many < fewest && saysAll(set)) {
+            if (many < fewest && finder.saysAll(set)) {
                 fewest = many;
                 best = set;
             }
@@ -542,45 +541,6 @@ public final class OneVerb {
         meaning.find(kept.formula, land.verbOf(kept.toldOn), meantAgain);
         meantOnce.take(kept.bound);
         meantOnce.drop(meantAgain);
-    }
-
-    private void findSayable() {
-        Arrays.fill(sayableBy, 0);
-        for (int verb = 0; verb < land.many[VERB]; verb++) {
-            for (int clause = 0; clause < CLAUSES; clause++) {
-                if (land.isClause(clause)) {
-                    noteSayable(clause, verb);
-                }
-            }
-        }
-    }
-
-    /** A CLAUSE can tell the place of its own two THINGS alone, so no other is looked at. */
-    private void noteSayable(int clause, int verb) {
-        int first = land.thingOf(land.nounOf(clause / NOUNS));
-        int second = land.thingOf(land.nounOf(clause % NOUNS));
-        int table = land.clauseTable(clause, verb);
-        for (int place = 0; place < land.places; place++) {
-            noteSayableAt(first, place, table, land.spotTable(first, second, true, place), verb, first == second);
-            noteSayableAt(second, place, table, land.spotTable(first, second, false, place), verb, first == second);
-        }
-    }
-
-    private void noteSayableAt(int thing, int place, int table, int spot, int verb, boolean alike) {
-        int all = land.wholeTable(alike);
-        int within = table & all;
-        if (within == spot || (all & ~within) == spot) {
-            sayableBy[thing * MOST_PLACES + place] |= 1 << verb;
-        }
-    }
-
-    private boolean saysAll(int verbs) {
-        for (int i = 0; i < sayableBy.length; i++) {
-            if (sayableBy[i] != 0 && (sayableBy[i] & verbs) == 0) {
-                return false;
-            }
-        }
-        return true;
     }
 
     private boolean fitsSeen(int verb) {
@@ -1495,7 +1455,7 @@ public final class OneVerb {
             return way << 3 | thing;
         }
 
-        int thingOf(int noun) {
+        private static int thingOf(int noun) {
             return Math.min(noun & 7, MOST_THINGS - 1);
         }
 
@@ -1538,6 +1498,14 @@ public final class OneVerb {
             return table;
         }
 
+        int firstThing(int clause) {
+            return thingOf(nounOf(clause / NOUNS));
+        }
+
+        int secondThing(int clause) {
+            return thingOf(nounOf(clause % NOUNS));
+        }
+
         int clauseTable(int clause, int verb) {
             return tableOf(nounOf(clause / NOUNS), nounOf(clause % NOUNS), verb);
         }
@@ -1566,10 +1534,14 @@ public final class OneVerb {
             return alike ? whole & DIAGONAL : whole;
         }
 
-        /** Where the first, or the second, of two THINGS is at a PLACE. */
-        int spotTable(int first, int second, boolean ofFirst, int place) {
-            int there = ofFirst ? 15 << 4 * place : (1 | 1 << 4 | 1 << 8 | 1 << 12) << place;
-            return there & wholeTable(first == second);
+        /** The table of the first THING's being at a PLACE. */
+        int firstAt(int place) {
+            return 15 << 4 * place;
+        }
+
+        /** The table of the second THING's being at a PLACE. */
+        int secondAt(int place) {
+            return (1 | 1 << 4 | 1 << 8 | 1 << 12) << place;
         }
 
         /** The WORLDS in which a THING is at a PLACE. */
@@ -1610,11 +1582,7 @@ public final class OneVerb {
 
         /** Sixty-four of all WORLDS. */
         long wholeLong(int i) {
-            int rest = worldMany - 64 * i;
-            if (rest >= 64) {
-                return -1L;
-            }
-            return rest > 0 ? (1L << rest) - 1L : 0L;
+            return WorldSet.wholeLong(worldMany, i);
         }
     }
 
@@ -1622,14 +1590,22 @@ public final class OneVerb {
     private static final class WorldSet {
         final long[] bits = new long[LONGS];
 
+        /** The i-th long of a set of so many WORLDS, if all of them are in it. */
+        static long wholeLong(int worlds, int i) {
+            int rest = worlds - 64 * i;
+            if (rest >= 64) {
+                return -1L;
+            }
+            return rest > 0 ? (1L << rest) - 1L : 0L;
+        }
+
         void clear() {
             Arrays.fill(bits, 0L);
         }
 
         void fill(int worlds) {
             for (int i = 0; i < LONGS; i++) {
-                int rest = worlds - 64 * i;
-                bits[i] = rest >= 64 ? -1L : rest > 0 ? (1L << rest) - 1L : 0L;
+                bits[i] = wholeLong(worlds, i);
             }
         }
 
@@ -1658,8 +1634,7 @@ public final class OneVerb {
         /** All of so many WORLDS but those that are in it. */
         void turn(int worlds) {
             for (int i = 0; i < LONGS; i++) {
-                int rest = worlds - 64 * i;
-                bits[i] = ~bits[i] & (rest >= 64 ? -1L : rest > 0 ? (1L << rest) - 1L : 0L);
+                bits[i] = ~bits[i] & wholeLong(worlds, i);
             }
         }
 
@@ -1958,6 +1933,7 @@ public final class OneVerb {
         int joint;
         int first;
         int second;
+        final int[] sayableBy = new int[MOST_THINGS * MOST_PLACES];
         private final Land land;
         private final long[] today = new long[CLAUSES * LONGS];
         private final long[] later = new long[CLAUSES * LONGS];
@@ -2065,8 +2041,8 @@ public final class OneVerb {
             for (int clause = 0; clause < CLAUSES; clause++) {
                 if (land.isClause(clause)) {
                     int table = land.clauseTable(clause, verb);
-                    int one = land.thingOf(land.nounOf(clause / NOUNS));
-                    int other = land.thingOf(land.nounOf(clause % NOUNS));
+                    int one = land.firstThing(clause);
+                    int other = land.secondThing(clause);
                     for (int i = 0; i < land.longs && i < LONGS; i++) {
                         into[clause * LONGS + i] = land.longOf(table, one, other, i);
                     }
@@ -2135,10 +2111,50 @@ public final class OneVerb {
 
         private boolean isClauseMeant(WorldSet target, int clause, int verb) {
             int table = land.clauseTable(clause, verb);
-            int one = land.thingOf(land.nounOf(clause / NOUNS));
-            int other = land.thingOf(land.nounOf(clause % NOUNS));
+            int one = land.firstThing(clause);
+            int other = land.secondThing(clause);
             for (int i = 0; i < land.longs && i < LONGS; i++) {
                 if (land.longOf(table, one, other, i) != target.bits[i]) {
+                    return false;
+                }
+            }
+            return true;
+        }
+
+        /** Finds by which VERBS it is SAYABLE that a THING is at a PLACE, for all of them: sayableBy tells it. */
+        void findSayable() {
+            Arrays.fill(sayableBy, 0);
+            for (int verb = 0; verb < land.many[VERB]; verb++) {
+                for (int clause = 0; clause < CLAUSES; clause++) {
+                    if (land.isClause(clause)) {
+                        noteSayable(clause, verb);
+                    }
+                }
+            }
+        }
+
+        /** A CLAUSE can tell the place of its own two THINGS alone, so no other is looked at. */
+        private void noteSayable(int clause, int verb) {
+            int one = land.firstThing(clause);
+            int other = land.secondThing(clause);
+            int whole = land.wholeTable(one == other);
+            int table = land.clauseTable(clause, verb) & whole;
+            for (int place = 0; place < land.places; place++) {
+                int spotOfOne = land.firstAt(place) & whole;
+                int spotOfOther = land.secondAt(place) & whole;
+                if (table == spotOfOne || table == (whole & ~spotOfOne)) {
+                    sayableBy[one * MOST_PLACES + place] |= 1 << verb;
+                }
+                if (table == spotOfOther || table == (whole & ~spotOfOther)) {
+                    sayableBy[other * MOST_PLACES + place] |= 1 << verb;
+                }
+            }
+        }
+
+        /** Whether all that is SAYABLE by some VERB is so by one of these. */
+        boolean saysAll(int verbs) {
+            for (int i = 0; i < sayableBy.length; i++) {
+                if (sayableBy[i] != 0 && (sayableBy[i] & verbs) == 0) {
                     return false;
                 }
             }
