@@ -53,6 +53,15 @@ final class ForeignerTest {
         }
         DUE.is("cover(0)", x.cover(0), 3);
         DUE.is("cover(1): the least set", x.cover(1), 1 + 2 + 4);
+        OneVerb y = in("places 3;thing a weigh 1;thing b weigh 2;verb some not (second=0) and light<heavy;");
+        DUE.is("sayable(1, 0) by a contrary", y.sayable(1, 0), 1);
+        DUE.is("sayable(1, 1)", y.sayable(1, 1), 0);
+        DUE.is("sayable(0, 0)", y.sayable(0, 0), 0);
+        // One THING is at one PLACE: what a law says of two does not count then.
+        OneVerb z = in("places 4;thing a weigh 1;verb nine first*second=9;"
+            + "verb low first=second and first*second<4 and 0<first or first+second=1;");
+        DUE.is("sayable(0, 3) by a a", z.sayable(0, 3), 1);
+        DUE.is("sayable(0, 1) by a a", z.sayable(0, 1), 2);
     }
 
     private static void seen() {

@@ -94,6 +94,11 @@ final class SearchTest {
         two(x, 3, 3, 8, 1);
         x.dawn(1);
         two(x, 3);
+        x.mark(0, false);
+        Due.ask(x, "a b;");
+        // Today is silent: "a b" by top would do, but nothing can be said today.
+        two(x, 3);
+        x.mark(0, true);
         x.dawn(1);
         // Tomorrow, by top: "not a a" is {0, 1}; {0} of it: by up "not a b".
         two(x, 3, 1, 9, 1);
