@@ -20,6 +20,13 @@ final class Due {
         is(call, got ? 1 : 0, want ? 1 : 0);
     }
 
+    /** A new object in a LAND without a FAULT. */
+    OneVerb in(String land) {
+        OneVerb x = new OneVerb();
+        is("land() of " + land, land(x, land), 0);
+        return x;
+    }
+
     /** Puts a text behind the TAPE, up to 24 signs a call. */
     static void feed(OneVerb x, String text) {
         for (int at = 0; at < text.length(); at += 24) {

@@ -13,15 +13,9 @@ final class MeaningTest {
         DUE.end();
     }
 
-    private static OneVerb in(String land) {
-        OneVerb x = new OneVerb();
-        DUE.is("land() of " + land, Due.land(x, land), 0);
-        return x;
-    }
-
     /** THING 0's PLACE is the highest digit. */
     private static void clauses() {
-        OneVerb x = in("places 3;thing a weigh 4;thing b weigh 9;bend f place+1;bend g 2;verb up first<second;"
+        OneVerb x = DUE.in("places 3;thing a weigh 4;thing b weigh 9;bend f place+1;bend g 2;verb up first<second;"
             + "verb at first=second;week up silent at;");
         int a = 0;
         int fa = 1;
@@ -49,7 +43,7 @@ final class MeaningTest {
 
     /** A law of constants alone: whether it is so. */
     private static void law(String e, int holds) {
-        OneVerb x = in("places 2;thing a weigh 7;thing b weigh 3;verb v " + e + ";");
+        OneVerb x = DUE.in("places 2;thing a weigh 7;thing b weigh 3;verb v " + e + ";");
         // a at 0, b at 1
         DUE.is("a b by " + e, x.holds(4, 0, 1), holds);
     }
@@ -78,7 +72,7 @@ final class MeaningTest {
         law("light=7", 1);
         law("heavy=3", 1);
         law("alike", 0);
-        OneVerb x = in("places 2;bend f place+1;thing a weigh 7;verb v alike and light=heavy and first<second;");
+        OneVerb x = DUE.in("places 2;bend f place+1;thing a weigh 7;verb v alike and light=heavy and first<second;");
         DUE.is("a, f a where a is 0", x.holds(1, 0, 0), 1);
         DUE.is("a, f a where a is 1", x.holds(1, 0, 1), 0);
         DUE.is("f a, a where a is 1", x.holds(20, 0, 1), 1);
@@ -87,7 +81,7 @@ final class MeaningTest {
 
     /** Of two the one next to the THING comes first; what is below 0 goes round. */
     private static void bends() {
-        OneVerb x = in("places 4;thing a weigh 6;thing z weigh 0;bend dec place-1;bend dbl place*2;bend w weight-9;"
+        OneVerb x = DUE.in("places 4;thing a weigh 6;thing z weigh 0;bend dec place-1;bend dbl place*2;bend w weight-9;"
             + "verb at first=second;");
         Due.say(x, "z z;");
         int[] decDbl = {3, 1, 3, 1};
@@ -113,7 +107,7 @@ final class MeaningTest {
     }
 
     private static void formulas() {
-        OneVerb x = in("places 2;thing a weigh 1;thing b weigh 2;verb at first=second;verb up first<second;"
+        OneVerb x = DUE.in("places 2;thing a weigh 1;thing b weigh 2;verb at first=second;verb up first<second;"
             + "verb top first+second=2;week at up silent top;");
         DUE.is("meant(0) of nothing", x.meant(0), -1);
         DUE.is("same(0, 0) of nothing", x.same(0, 0), -1);
@@ -152,7 +146,7 @@ final class MeaningTest {
     }
 
     private static void sure() {
-        OneVerb x = in("places 3;thing a weigh 1;thing b weigh 2;verb up first<second;");
+        OneVerb x = DUE.in("places 3;thing a weigh 1;thing b weigh 2;verb up first<second;");
         DUE.is("sure(0, 0) at first", x.sure(0, 0), 2);
         Due.say(x, "a b;");
         int[][] due = {{2, 2, 0}, {0, 2, 2}};
@@ -167,7 +161,7 @@ final class MeaningTest {
         DUE.is("sure(0, -1)", x.sure(0, -1), -1);
         Due.say(x, "b a;");
         DUE.is("sure(0, 0) of nothing left", x.sure(0, 0), -1);
-        OneVerb y = in("places 2;thing a weigh 1;thing b weigh 2;verb up first<second;");
+        OneVerb y = DUE.in("places 2;thing a weigh 1;thing b weigh 2;verb up first<second;");
         Due.say(y, "a b;");
         DUE.is("sure(0, 0)", y.sure(0, 0), 1);
         DUE.is("sure(0, 1)", y.sure(0, 1), 0);
@@ -175,7 +169,7 @@ final class MeaningTest {
     }
 
     private static void clashes() {
-        OneVerb x = in("places 2;thing a weigh 1;thing b weigh 2;verb at first=second;verb up first<second;"
+        OneVerb x = DUE.in("places 2;thing a weigh 1;thing b weigh 2;verb at first=second;verb up first<second;"
             + "week at up;");
         DUE.is("clash() at first", x.clash(), -1);
         Due.say(x, "a a;");
@@ -199,7 +193,7 @@ final class MeaningTest {
 
     /** 1,024 WORLDS: the sixteenth long counts as the first does. */
     private static void biggest() {
-        OneVerb x = in("places 4;thing a weigh 1;thing b weigh 2;thing c weigh 3;thing d weigh 4;thing e weigh 5;"
+        OneVerb x = DUE.in("places 4;thing a weigh 1;thing b weigh 2;thing c weigh 3;thing d weigh 4;thing e weigh 5;"
             + "verb at first=second;verb up first<second;");
         DUE.is("worlds(0)", x.worlds(0), 1024);
         DUE.is("worlds(1)", x.worlds(1), 1024);

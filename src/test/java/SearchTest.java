@@ -13,12 +13,6 @@ final class SearchTest {
         DUE.end();
     }
 
-    private static OneVerb in(String land) {
-        OneVerb x = new OneVerb();
-        DUE.is("land() of " + land, Due.land(x, land), 0);
-        return x;
-    }
-
     private static void shortest(OneVerb x, int day, int... due) {
         for (int what = 0; what < 4; what++) {
             int want = due.length == 0 ? -1 : due[what];
@@ -34,7 +28,7 @@ final class SearchTest {
     }
 
     private static void oneLiteral() {
-        OneVerb x = in(PAIR + "verb at first=second;verb up first<second;week at up silent at;");
+        OneVerb x = DUE.in(PAIR + "verb at first=second;verb up first<second;week at up silent at;");
         shortest(x, 0);
         Due.ask(x, "a b;");
         shortest(x, 0, 2, 0, 8, -1);
@@ -52,7 +46,7 @@ final class SearchTest {
     }
 
     private static void twoLiterals() {
-        OneVerb x = in(PAIR + "verb at first=second;verb up first<second;week at up silent at;");
+        OneVerb x = DUE.in(PAIR + "verb at first=second;verb up first<second;week at up silent at;");
         x.dawn(1);
         Due.ask(x, "a b or b a;");
         shortest(x, 1, 5, 2, 8, 160);
@@ -61,10 +55,10 @@ final class SearchTest {
 
     /** {1, 2} is "not a b", "a f b" and more of three words: the least number; then words come ahead of numbers. */
     private static void fewestWords() {
-        OneVerb x = in(PAIR + "bend f place+1;verb at first=second;");
+        OneVerb x = DUE.in(PAIR + "bend f place+1;verb at first=second;");
         Due.ask(x, "not a b;");
         shortest(x, 0, 3, 0, 9, -1);
-        OneVerb y = in("places 2;bend f place+1;thing a weigh 1;thing b weigh 2;verb lo first*second*second;week lo;");
+        OneVerb y = DUE.in("places 2;bend f place+1;thing a weigh 1;thing b weigh 2;verb lo first*second*second;week lo;");
         // By lo: a b is {3}; f a, a is nothing, in three words; a a is {2, 3}, in two.
         Due.ask(y, "f b b;");
         shortest(y, 0, 3, 0, 2, -1);
@@ -79,7 +73,7 @@ final class SearchTest {
     }
 
     private static void twoDays() {
-        OneVerb x = in(PAIR + "verb at first=second;verb up first<second;verb top first+second=2;"
+        OneVerb x = DUE.in(PAIR + "verb at first=second;verb up first<second;verb top first+second=2;"
             + "week at silent up top;");
         two(x, 0);
         Due.ask(x, "a b;");
@@ -103,13 +97,13 @@ final class SearchTest {
         // Tomorrow, by top: "not a a" is {0, 1}; {0} of it: by up "not a b".
         two(x, 3, 1, 9, 1);
         // A single verb each day: what needs two of it may be told over two days.
-        OneVerb y = in(PAIR + "verb top first+second=2;");
+        OneVerb y = DUE.in(PAIR + "verb top first+second=2;");
         Due.ask(y, "a a and not a b;");
         two(y, 0, 1, 0, 9);
-        OneVerb z = in(PAIR + "verb top first+second=2;week top silent silent silent silent silent silent;");
+        OneVerb z = DUE.in(PAIR + "verb top first+second=2;week top silent silent silent silent silent silent;");
         Due.ask(z, "a a and not a b;");
         two(z, 0);
-        OneVerb last = in(PAIR + "verb top first+second=2;week top silent silent silent silent silent;");
+        OneVerb last = DUE.in(PAIR + "verb top first+second=2;week top silent silent silent silent silent;");
         Due.ask(last, "a a and not a b;");
         two(last, 0, 6, 0, 9);
     }
@@ -121,7 +115,7 @@ final class SearchTest {
     }
 
     private static void riddles() {
-        OneVerb x = in(PAIR + "verb at first=second;verb up first<second;verb down second<first;"
+        OneVerb x = DUE.in(PAIR + "verb at first=second;verb up first<second;verb down second<first;"
             + "week at up down silent silent silent silent;");
         riddle(x, -1, -1, -1, -1, -1, -1, -1);
         Due.ask(x, "a b;");
@@ -133,11 +127,11 @@ final class SearchTest {
         Due.ask(x, "a a;");
         // Nothing is meant by a a and b b alike on both days.
         riddle(x, -1, -1, -1, -1, -1, -1, -1);
-        OneVerb turns = in(PAIR + "verb at first=second;verb up first<second;");
+        OneVerb turns = DUE.in(PAIR + "verb at first=second;verb up first<second;");
         Due.ask(turns, "a b;");
         // Each verb comes again within the seven days.
         riddle(turns, -1, -1, -1, -1, -1, -1, -1);
-        OneVerb six = in(PAIR + "verb at first=second;verb up first<second;week at silent silent silent up silent;");
+        OneVerb six = DUE.in(PAIR + "verb at first=second;verb up first<second;week at silent silent silent up silent;");
         Due.ask(six, "a b;");
         // at comes again on the seventh day, up does not, but never means it.
         riddle(six, -1, -1, -1, -1, -1, -1, -1);
@@ -148,7 +142,7 @@ final class SearchTest {
 
     /** On a SILENT DAY a FORMULA may mean nothing, but no CLAUSE means it by silence. */
     private static void silentRiddles() {
-        OneVerb x = in(PAIR + "verb up first<second;verb at first=second;"
+        OneVerb x = DUE.in(PAIR + "verb up first<second;verb at first=second;"
             + "week up silent silent silent silent silent at;");
         Due.ask(x, "a a;");
         riddle(x, 0, -1, -1, -1, -1, -1, -1);

@@ -19,14 +19,8 @@ final class StateTest {
         DUE.end();
     }
 
-    private static OneVerb in(String land) {
-        OneVerb x = new OneVerb();
-        DUE.is("land() of " + land, Due.land(x, land), 0);
-        return x;
-    }
-
     private static void lands() {
-        OneVerb x = in("places 4;verb v 1;verb w 1;bribe 7;thing a weigh 0;speaker s wants w 3;bend f 1;"
+        OneVerb x = DUE.in("places 4;verb v 1;verb w 1;bribe 7;thing a weigh 0;speaker s wants w 3;bend f 1;"
             + "week w silent v;thing b weigh 99;speaker t wants v 0;");
         int[] counts = {4, 2, 1, 2, 2, 3, 0, 0, 0, 0, 0, 0, 7, 0};
         for (int what = 0; what < counts.length; what++) {
@@ -45,19 +39,19 @@ final class StateTest {
         DUE.is("verb(-3)", x.verb(-3), -1);
         DUE.is("verb(2147483647)", x.verb(Integer.MAX_VALUE), -1);
         DUE.is("worlds(0)", x.worlds(0), 16);
-        OneVerb turns = in(TURNS);
+        OneVerb turns = DUE.in(TURNS);
         DUE.is("verb(0) in turn", turns.verb(0), 0);
         DUE.is("verb(5) in turn", turns.verb(5), 1);
-        OneVerb none = in("places 2;thing a weigh 1;");
+        OneVerb none = DUE.in("places 2;thing a weigh 1;");
         DUE.is("verb(0) without verbs", none.verb(0), -1);
         DUE.is("say() without verbs", Due.say(none, "a a;"), -2);
-        OneVerb wordless = in("places 2;thing a weigh 1;week silent silent;");
+        OneVerb wordless = DUE.in("places 2;thing a weigh 1;week silent silent;");
         DUE.is("count(5)", wordless.count(5), 2);
         DUE.is("verb(1)", wordless.verb(1), -1);
     }
 
     private static void sayings() {
-        OneVerb x = in(TURNS);
+        OneVerb x = DUE.in(TURNS);
         DUE.is("worlds(1)", x.worlds(1), 4);
         DUE.is("say()", Due.say(x, "a b;"), 0);
         DUE.is("worlds(1)", x.worlds(1), 2);
@@ -83,7 +77,7 @@ final class StateTest {
     }
 
     private static void twelveAtMost() {
-        OneVerb x = in("places 2;thing a weigh 1;verb v 1;week v silent;");
+        OneVerb x = DUE.in("places 2;thing a weigh 1;verb v 1;week v silent;");
         for (int i = 0; i < 12; i++) {
             DUE.is("say() " + i, Due.say(x, "a a;"), 0);
         }
@@ -100,7 +94,7 @@ final class StateTest {
     }
 
     private static void unsaid() {
-        OneVerb x = in(TURNS);
+        OneVerb x = DUE.in(TURNS);
         for (int i = 0; i < 4; i++) {
             Due.say(x, i == 2 ? "not a b;" : "a b;");
             x.dawn(1);
@@ -125,7 +119,7 @@ final class StateTest {
     }
 
     private static void undone() {
-        OneVerb x = in(TURNS);
+        OneVerb x = DUE.in(TURNS);
         DUE.is("undo() at first", x.undo(), false);
         for (int i = 0; i < 12; i++) {
             Due.say(x, "a b;");
@@ -160,7 +154,7 @@ final class StateTest {
     }
 
     private static void orders() {
-        OneVerb x = in(TURNS);
+        OneVerb x = DUE.in(TURNS);
         DUE.is("order(0)", Due.order(x, "a b;", 0), -2);
         DUE.is("order(100)", Due.order(x, "a b;", 100), -2);
         DUE.is("order(-1)", Due.order(x, "a b;", -1), -2);
@@ -194,7 +188,7 @@ final class StateTest {
 
     /** A SILENT DAY: an ORDER for it binds nothing, one told on it has every WORLD for a loophole that a CLAUSE needs. */
     private static void silentOrders() {
-        OneVerb x = in("places 2;thing a weigh 4;thing b weigh 9;verb at first=second;week silent at;");
+        OneVerb x = DUE.in("places 2;thing a weigh 4;thing b weigh 9;verb at first=second;week silent at;");
         DUE.is("order(1) on a silent day", Due.order(x, "a b;", 1), 0);
         DUE.is("order(1) of a contrary", Due.order(x, "not a b;", 1), 0);
         DUE.is("order(2) for a silent day", Due.order(x, "a b;", 2), 0);
@@ -215,7 +209,7 @@ final class StateTest {
     }
 
     private static void dawns() {
-        OneVerb x = in(TURNS);
+        OneVerb x = DUE.in(TURNS);
         DUE.is("dawn(1)", x.dawn(1), 1);
         DUE.is("dawn(1000)", x.dawn(1000), 1001);
         DUE.is("dawn(1001)", x.dawn(1001), -1);
@@ -225,7 +219,7 @@ final class StateTest {
     }
 
     private static void marks() {
-        OneVerb x = in(TURNS);
+        OneVerb x = DUE.in(TURNS);
         DUE.is("mark(-1, false)", x.mark(-1, false), false);
         DUE.is("mark(4, false)", x.mark(4, false), false);
         DUE.is("mark(0, true)", x.mark(0, true), false);
@@ -273,7 +267,7 @@ final class StateTest {
     }
 
     private static void newLand() {
-        OneVerb x = in(TURNS);
+        OneVerb x = DUE.in(TURNS);
         Due.say(x, "a b;");
         Due.order(x, "a b;", 4);
         Due.ask(x, "a b;");

@@ -15,7 +15,7 @@ final class YearTest {
     private static final Due DUE = new Due("YearTest");
 
     public static void main(String[] args) {
-        OneVerb x = in(LAND);
+        OneVerb x = DUE.in(LAND);
         years(x, PLAIN);
         wrong(x);
         Due.order(x, "a b;", 4);
@@ -28,17 +28,11 @@ final class YearTest {
         x.dawn(5);
         years(x, FROM_DAY_5);
         said();
-        OneVerb wordless = in("places 2;thing a weigh 1;");
+        OneVerb wordless = DUE.in("places 2;thing a weigh 1;");
         DUE.is("year(1, 5, 0) without verbs", wordless.year(1, 5, 0), -1);
-        OneVerb empty = in("places 2;verb v 1;");
+        OneVerb empty = DUE.in("places 2;verb v 1;");
         DUE.is("year(1, 5, 0) without things", empty.year(1, 5, 0), -1);
         DUE.end();
-    }
-
-    private static OneVerb in(String land) {
-        OneVerb x = new OneVerb();
-        DUE.is("land() of " + land, Due.land(x, land), 0);
-        return x;
     }
 
     private static void years(OneVerb x, int[][] dues) {
@@ -61,7 +55,7 @@ final class YearTest {
 
     /** What is SAID has left its mark already: where nothing is LEFT nothing is told. */
     private static void said() {
-        OneVerb x = in(LAND);
+        OneVerb x = DUE.in(LAND);
         Due.say(x, "a b and not a b;");
         DUE.is("year(1, 20, 0) of nothing left", x.year(1, 20, 0), 0);
         DUE.is("year(1, 20, 1) of nothing left", x.year(1, 20, 1), 4);
