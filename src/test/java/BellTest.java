@@ -9,6 +9,8 @@ final class BellTest {
         rings();
         rests();
         equalRests();
+        sixVerbs();
+        threeSpeakers();
         DUE.end();
     }
 
@@ -83,5 +85,99 @@ final class BellTest {
         rest(DUE.in(VERBS + "week u silent;speaker p wants u 0;bribe 0;"), 0, 1, 2, 3);
         OneVerb all = DUE.in("places 2;verb u 1;week u;speaker p wants u 1;speaker q wants u 1;speaker r wants u 1;bribe 0;");
         rest(all, 0, 1, 8, 9, 64, 65, 72, 73);
+    }
+
+    /** Each digit may be up to the VERBS, those behind the SPEAKERS must be 0. */
+    private static void sixVerbs() {
+        String land = "places 2;verb u 1;verb v 1;verb w 1;verb x 1;verb y 1;verb z 1;week silent;speaker p wants z 1;";
+        OneVerb one = DUE.in(land);
+        OneVerb two = DUE.in(land + "speaker q wants y 1;");
+        OneVerb three = DUE.in(land + "speaker q wants y 1;speaker r wants x 1;");
+        for (int digit = 0; digit < 8; digit++) {
+            int due = digit > 6 ? -99 : digit - 1;
+            rung(one, digit, due);
+            rung(one, digit * 8, digit == 0 ? -1 : -99);
+            rung(two, digit, due);
+            rung(two, digit * 8, due);
+            rung(two, digit * 64, digit == 0 ? -1 : -99);
+            rung(three, digit, due);
+            rung(three, digit * 8, due);
+            rung(three, digit * 64, due);
+            rung(three, digit * 512, digit == 0 ? -1 : -99);
+            rung(three, digit + 8 * digit, due);
+            rung(three, 6 + 64 * digit + 8 * digit, digit == 0 ? 5 : due);
+        }
+        rung(three, 6 + 8 * 5 + 64 * 4, 3);
+        rung(three, 4 + 8 * 5 + 64 * 6, 3);
+        rung(three, 5 + 8 * 6 + 64 * 6, 5);
+    }
+
+    /** RESTS reckoned here by hand, of worths by SPEAKER and VERB; tomorrow is SILENT, or tells a VERB. */
+    private static void threeSpeakers() {
+        int[][][] worths = {{{9, 0, 0}, {0, 9, 0}, {0, 0, 9}}, {{0, 0, 5}, {0, 0, 0}, {0, 0, 5}},
+            {{1, 2, 3}, {3, 1, 2}, {2, 3, 1}}, {{0, 0, 0}, {0, 0, 0}, {0, 0, 7}}, {{4, 4, 4}, {0, 99, 99}, {7, 0, 8}},
+            {{0, 8, 0}, {6, 0, 0}, {0, 8, 6}}};
+        for (int[][] worth : worths) {
+            for (int bribe : new int[] {0, 1, 3, 99}) {
+                for (int tomorrow = -1; tomorrow < 3; tomorrow++) {
+                    byHand(worth, bribe, tomorrow);
+                }
+            }
+        }
+    }
+
+    private static void byHand(int[][] worth, int bribe, int tomorrow) {
+        StringBuilder land = new StringBuilder(VERBS + "week u " + (tomorrow < 0 ? "silent" : "" + "uvw".charAt(tomorrow)));
+        for (int s = 0; s < 3; s++) {
+            land.append(";speaker ").append("pqr".charAt(s)).append(" wants u ").append(worth[s][0]).append(" v ")
+                .append(worth[s][1]).append(" w ").append(worth[s][2]);
+        }
+        OneVerb x = DUE.in(land.append(";bribe ").append(bribe).append(";").toString());
+        int found = 0;
+        for (int r = 0; r < 4; r++) {
+            for (int q = 0; q < 4; q++) {
+                for (int p = 0; p < 4; p++) {
+                    if (isRest(new int[] {p, q, r}, worth, bribe, tomorrow)) {
+                        DUE.is("rests(" + found + ") of " + land, x.rests(found), p + 8 * q + 64 * r);
+                        found++;
+                    }
+                }
+            }
+        }
+        DUE.is("rests(-1) of " + land, x.rests(-1), found);
+        DUE.is("rests(" + found + ") of " + land, x.rests(found), -1);
+    }
+
+    private static boolean isRest(int[] choices, int[][] worth, int bribe, int tomorrow) {
+        for (int s = 0; s < 3; s++) {
+            int own = choices[s];
+            int has = has(s, choices, worth, bribe, tomorrow);
+            boolean better = false;
+            for (int other = 0; other < 4; other++) {
+                choices[s] = other;
+                better |= has(s, choices, worth, bribe, tomorrow) > has;
+            }
+            choices[s] = own;
+            if (better) {
+                return false;
+            }
+        }
+        return true;
+    }
+
+    private static int has(int s, int[] choices, int[][] worth, int bribe, int tomorrow) {
+        int verb = tomorrow;
+        int most = 0;
+        for (int v = 0; v < 3; v++) {
+            int many = 0;
+            for (int choice : choices) {
+                many += choice == v + 1 ? 1 : 0;
+            }
+            if (many > most) {
+                most = many;
+                verb = v;
+            }
+        }
+        return (verb < 0 ? 0 : worth[s][verb]) - (choices[s] > 0 ? bribe : 0);
     }
 }

@@ -20,6 +20,11 @@ final class Due {
         is(call, got ? 1 : 0, want ? 1 : 0);
     }
 
+    void is(String call, String got, String want) {
+        boolean alike = got.equals(want);
+        is(alike ? call : call + ": " + got + " for " + want, alike, true);
+    }
+
     /** A new object in a LAND without a FAULT. */
     OneVerb in(String land) {
         OneVerb x = new OneVerb();

@@ -19,6 +19,11 @@ final class FaultTest {
         tooMany();
         sayings();
         deepSayings();
+        names();
+        namesAlike();
+        noTokens();
+        leastKinds();
+        depths();
         faultsLeaveAll();
         likeTheModel();
         DUE.end();
@@ -267,6 +272,151 @@ final class FaultTest {
         saying("(((((^a b)))));", 5);
         saying("((((a b and (^a b)))));", 5);
         saying("not(not(not ^a b));", 5);
+    }
+
+    /** Each kind of line wants a NAME, and no word of the language is one. */
+    private static void names() {
+        String[][] lines = {{"thing ", " weigh 1;"}, {"bend ", " 1;"}, {"verb ", " 1;"}, {"speaker ", " wants v 1;"}};
+        for (String[] line : lines) {
+            for (String word : RESERVED) {
+                land(V + line[0] + "^" + word + line[1], 1);
+            }
+            for (String name : new String[] {"first", "place", "zzzzzzzz", "z", "placesa", "no", "ands"}) {
+                land(V + line[0] + name + line[1], 0);
+            }
+            for (String none : new String[] {"7", "(", "=", "Z", "abcdefghi", "12345"}) {
+                land(V + line[0] + "^" + none + line[1], 1);
+            }
+            land(V + line[0] + "^", 1);
+            land(V + line[0] + "z^", 1);
+            for (String told : new String[] {"a", "b", "v", "s"}) {
+                String all = P + "thing a weigh 1;bend b 1;verb v 1;speaker s wants v 1;";
+                land(all + line[0] + "^" + told + line[1], 3);
+            }
+        }
+        for (String word : RESERVED) {
+            if (!word.equals("silent")) {
+                land(V + "week v ^" + word + ";", 1);
+            }
+            land(V + "speaker s wants ^" + word + " 1;", 1);
+            if (!word.equals("not")) {
+                saying("^" + word + " b;", 1);
+            }
+            saying("a ^" + word + " b;", 1);
+            saying("f ^" + word + " b;", 1);
+        }
+    }
+
+    /** NAMES are alike only if all their letters are. */
+    private static void namesAlike() {
+        String things = "thing a weigh 1;thing aa weigh 2;thing aaa weigh 3;thing abcdefgh weigh 4;thing bcdefgha weigh 5;";
+        land(P + things + "bend aaaa 1;bend abcdefg 1;bend abcdefgi 1;verb z 1;verb az 1;verb za 1;verb zzzzzzzz 1;"
+            + "verb zzzzzzzy 1;verb zzzzzzz 1;week zzzzzzz az zzzzzzzy za;", 0);
+        OneVerb x = DUE.in(P + things + "verb z 1;verb az 0;verb za 1;week za az z;");
+        int[] verbs = {2, 1, 0};
+        for (int day = 0; day < 3; day++) {
+            DUE.is("verb(" + day + ") of names near each other", x.verb(day), verbs[day]);
+        }
+        DUE.is("say() of a", Due.say(x, "a aaa;"), 0);
+        DUE.is("say() of aaaa", Due.say(x, "aa aaaa;"), 2 + 16 * 3);
+        DUE.is("say() of abcdefg", Due.say(x, "abcdefg a;"), 2);
+        DUE.is("say() of abcdefgh", Due.say(x, "bcdefgha abcdefgh;"), 0);
+    }
+
+    /** What is no token can stand nowhere. */
+    private static void noTokens() {
+        for (char c = 33; c < 127; c++) {
+            boolean isToken = c >= 'a' && c <= 'z' || c >= '0' && c <= '9' || "()<=+-*;".indexOf(c) >= 0;
+            if (!isToken && c != '^') {
+                land("^" + c + "places 2;", 1);
+                land("places ^" + c + "2;", 1);
+                land(P + "verb v 1^" + c + "1;", 1);
+                land(P + "verb v^" + c + "1;", 1);
+                land(V + "week v^" + c + "w;", 1);
+                saying("^" + c + "a b;", 1);
+                saying("a^" + c + "b;", 1);
+                saying("a b^" + c + ";", 1);
+                saying("a b;^" + c, 1);
+            }
+        }
+        for (String sign : new String[] {"<", "=", "+", "-", "*"}) {
+            saying("a b ^" + sign + " a b;", 1);
+            saying("^" + sign + "a b;", 1);
+            land(P + "verb v ^" + sign + "1;", 1);
+            land(P + "^" + sign, 1);
+        }
+        OneVerb x = new OneVerb();
+        DUE.is("land() of ^", Due.land(x, "places 2;^"), 1 + 16 * 9);
+        saying("a b;^12345", 1);
+        saying("a b;^abcdefghi", 1);
+        saying("a b;^a", 1);
+        saying("^12345 b;", 1);
+        saying("^1 b;", 1);
+        land(P + "verb v (^123456789);", 1);
+        land(P + "verb v 1+^alikewise;", 1);
+        land(P + "bend v place ^9999;", 1);
+        land("places ^2222222222222222222222222222222;", 1);
+        land("^aaaaaaaaaaaaaaaaaaaaaaaaaaaaaaaaaaaaaaaa", 1);
+        land("^placesplaces 2;", 1);
+        land("^pla ces 2;", 1);
+    }
+
+    /** The first wrong token counts, and of it the least kind. */
+    private static void leastKinds() {
+        saying("a b or ^x b;", 2);
+        saying("a b and ^x b;", 2);
+        saying("a b and a ^x;", 2);
+        saying("not ^x b;", 2);
+        saying("(^x b);", 2);
+        saying("a b and not ^and;", 1);
+        saying("(a b or ^) and;", 1);
+        saying("^x x x;", 2);
+        saying("a ^7 x;", 1);
+        saying("f g ^7 x;", 1);
+        saying("f g ^(a b);", 1);
+        saying("f g ^h x;", 5);
+        land(P + "thing a weigh ^100;thing a weigh 1;", 4);
+        land(V + "week v;^week u;", 3);
+        land(V + "week v;^week;", 3);
+        land(V + "bribe 1;^bribe 100;", 3);
+        land(V + "bribe 1;^bribe;", 3);
+        land(V + "speaker s wants w 1 ^w 100;", 3);
+        land(V + "speaker s wants w 1 v 2 ^w 3;", 3);
+        land(V + "speaker s wants w ^100 w;", 4);
+        land(V + "speaker s wants ^a 100;", 2);
+        String three = "speaker p wants v 1;speaker q wants v 1;speaker r wants v 1;";
+        land(V + three + "^speaker v wants u 100;", 5);
+        land(V + three + "^speaker;", 5);
+        land(V + "bend p 1;bend q 1;bend r 1;^bend a first;", 5);
+        land(P + "verb b first<second^<;", 1);
+    }
+
+    /** not and ( ) count wherever the PART or ITEM stands, those that are closed no more. */
+    private static void depths() {
+        for (String ahead : new String[] {"", "1+", "1-", "1*", "1<", "1=", "1 and ", "1 or ", "(1)*", "((((1))))+"}) {
+            land(P + "verb v " + ahead + "not not not not 1;", 0);
+            land(P + "verb v " + ahead + "not not not not not ^1;", 5);
+            land(P + "verb v " + ahead + "((((1))));", 0);
+            land(P + "verb v " + ahead + "(((((^1)))));", 5);
+        }
+        for (String ahead : new String[] {"", "1+", "1-", "1*", "1<", "1=", "1 and ", "1 or "}) {
+            land(P + "bend v not(" + ahead + "not(" + ahead + "1));", 0);
+            land(P + "bend v not(" + ahead + "not(" + ahead + "not ^place));", 5);
+        }
+        land(P + "verb v ((((1)+(1))*(1)));", 0);
+        land(P + "verb v ((((1)+((^1)))));", 5);
+        land(P + "verb v ((((1+not ^1))));", 5);
+        for (String ahead : new String[] {"", "a b and ", "a b or ", "(a b)and ", "((((a b))))or "}) {
+            saying(ahead + "not not not not a b;", 0);
+            saying(ahead + "not not not not not ^a b;", 5);
+            saying(ahead + "((((a b))));", 0);
+            saying(ahead + "(((((^a b)))));", 5);
+        }
+        for (String ahead : new String[] {"", "a b and ", "a b or "}) {
+            saying("not(" + ahead + "not(" + ahead + "a b));", 0);
+            saying("not(" + ahead + "not(" + ahead + "not ^b a));", 5);
+            saying("not(" + ahead + "not(" + ahead + "(^f a b)));", 5);
+        }
     }
 
     private static void faultsLeaveAll() {

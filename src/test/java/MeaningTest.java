@@ -5,8 +5,11 @@ final class MeaningTest {
     public static void main(String[] args) {
         clauses();
         laws();
+        moreLaws();
         bends();
+        bendsGoRound();
         formulas();
+        joined();
         sure();
         clashes();
         biggest();
@@ -79,6 +82,90 @@ final class MeaningTest {
         DUE.is("a a", x.holds(0, 0, 0), 0);
     }
 
+    /** What is not 0 is so, below it too; ints wrap; a comparison does not. */
+    private static void moreLaws() {
+        law("0-1", 1);
+        law("not (0-1)", 0);
+        law("(0-1 and 0-9)=1", 1);
+        law("(0-7 or 0)=1", 1);
+        law("(0 or 0)=0", 1);
+        law("(0 and 9)=0", 1);
+        law("not 0=1", 1);
+        law("not 9=0", 1);
+        law("not not (0-9)=1", 1);
+        law("3<3", 0);
+        law("4<3", 0);
+        law("3<4", 1);
+        law("3=4", 0);
+        law("3=3", 1);
+        law("0-1<0", 1);
+        law("0<0-1", 0);
+        law("0-9999*9999*20<9999*9999*20", 1);
+        law("9999*9999*20<0-9999*9999*20", 0);
+        law("9999*9999*21+9999*9999*21<0", 1);
+        law("0-9999*9999*21-9999*9999*21<0", 0);
+        law("256*256*256*256", 0);
+        law("not 2*0", 0);
+        law("1-1*1", 0);
+        law("1 and 2 or 0 and 0", 0);
+        law("0 or 1 and 1 or 0", 1);
+        law("1 or 1=0", 1);
+        law("1=1 and 0=1 or 1<2", 1);
+        law("2*3-4*1=2", 1);
+        law("8-2*3=2", 1);
+        law("(8-2)*3=18", 1);
+        law("light-heavy=4", 1);
+        law("heavy<light", 1);
+        law("first-second", 1);
+        law("second-first=1", 1);
+        law("alike=0", 1);
+        law("alike+1=1", 1);
+        OneVerb x = DUE.in("places 2;thing a weigh 7;thing b weigh 7;bend f 0;verb v alike=1;verb w alike;verb y light*heavy=49;");
+        int fa = 1;
+        int b = 4;
+        for (int world = 0; world < 4; world++) {
+            for (int day = 0; day < 2; day++) {
+                DUE.is("a a alike", x.holds(0, day, world), 1);
+                DUE.is("f a a alike: one THING", x.holds(fa * 20, day, world), 1);
+                DUE.is("a, f a alike", x.holds(fa, day, world), 1);
+                DUE.is("a b alike", x.holds(b, day, world), 0);
+                DUE.is("b a alike", x.holds(b * 20, day, world), 0);
+                DUE.is("b b alike", x.holds(b * 20 + b, day, world), 1);
+            }
+            DUE.is("b, f a: what they weigh", x.holds(b * 20 + fa, 2, world), 1);
+        }
+    }
+
+    /** A BEND's E modulo the PLACES, not below 0. */
+    private static void bend(int places, String e, int... due) {
+        OneVerb x = DUE.in("places " + places + ";thing a weigh 7;thing b weigh 0;bend f " + e + ";verb at first=second;");
+        for (int at = 0; at < places; at++) {
+            for (int to = 0; to < places; to++) {
+                DUE.is("f a at " + to + " by " + e, x.holds(20 + 4, 0, at * places + to), due[at] == to ? 1 : 0);
+                DUE.is("b where f a is, by " + e, x.holds(4 * 20 + 1, 0, at * places + to), due[at] == to ? 1 : 0);
+            }
+        }
+    }
+
+    private static void bendsGoRound() {
+        bend(2, "place+1", 1, 0);
+        bend(2, "0-1", 1, 1);
+        bend(3, "place", 0, 1, 2);
+        bend(3, "place+1", 1, 2, 0);
+        bend(3, "place-1", 2, 0, 1);
+        bend(3, "0-place", 0, 2, 1);
+        bend(3, "3", 0, 0, 0);
+        bend(3, "0-3", 0, 0, 0);
+        bend(3, "0-4", 2, 2, 2);
+        bend(3, "9999*9999*30", 2, 2, 2);
+        bend(4, "weight", 3, 3, 3, 3);
+        bend(4, "0-weight", 1, 1, 1, 1);
+        bend(4, "place*weight", 0, 3, 2, 1);
+        bend(4, "place=2", 0, 0, 1, 0);
+        bend(4, "place<2 and weight", 1, 1, 0, 0);
+        bend(4, "not place", 1, 0, 0, 0);
+    }
+
     /** Of two the one next to the THING comes first; what is below 0 goes round. */
     private static void bends() {
         OneVerb x = DUE.in("places 4;thing a weigh 6;thing z weigh 0;bend dec place-1;bend dbl place*2;bend w weight-9;"
@@ -120,6 +207,10 @@ final class MeaningTest {
         asked(x, "not (a b and not b a);", 4, 3, 4, 4);
         asked(x, "a a and b b;", 4, 0, 0, 1);
         DUE.is("same(0, 4)", x.same(0, 4), 1);
+        DUE.is("same(4, 0)", x.same(4, 0), 1);
+        DUE.is("same(0, 0)", x.same(0, 0), 1);
+        DUE.is("same(1, 0)", x.same(1, 0), 0);
+        DUE.is("same(-1, -1)", x.same(-1, -1), -1);
         DUE.is("same(1, 2): both mean nothing", x.same(1, 2), 1);
         DUE.is("same(0, 1)", x.same(0, 1), 0);
         DUE.is("same(-1, 0)", x.same(-1, 0), -1);
@@ -143,6 +234,37 @@ final class MeaningTest {
         for (int day = 0; day < due.length; day++) {
             DUE.is("meant(" + day + ") of " + text, x.meant(day), due[day]);
         }
+    }
+
+    /** and binds more than or, not the most; ( ) go ahead of all. */
+    private static void joined() {
+        OneVerb x = DUE.in("places 2;thing a weigh 1;thing b weigh 2;thing c weigh 3;bend one 1;verb at first=second;");
+        // A, B, C: whether a, b, c are at 1; their WORLDS are counted below.
+        String a = "a one a";
+        String b = "b one b";
+        String c = "c one c";
+        meantOf(x, a, 4);
+        meantOf(x, a + " or " + b + " and " + c, 5);
+        meantOf(x, a + " and " + b + " or " + c, 5);
+        meantOf(x, "(" + a + " or " + b + ") and " + c, 3);
+        meantOf(x, a + " and (" + b + " or " + c + ")", 3);
+        meantOf(x, "not " + a + " or " + b, 6);
+        meantOf(x, "not (" + a + " or " + b + ")", 2);
+        meantOf(x, "not " + a + " and " + b, 2);
+        meantOf(x, "not (" + a + " and " + b + ")", 6);
+        meantOf(x, "not not " + a, 4);
+        meantOf(x, "not not not (" + a + " and " + b + " and " + c + ")", 7);
+        meantOf(x, a + " or not " + a, 8);
+        meantOf(x, a + " and not " + a, 0);
+        meantOf(x, a + " or " + b + " or " + c, 7);
+        meantOf(x, a + " and " + b + " and " + c, 1);
+    }
+
+    private static void meantOf(OneVerb x, String text, int due) {
+        DUE.is("ask() of " + text, Due.ask(x, text + ";"), 0);
+        DUE.is("meant(0) of " + text, x.meant(0), due);
+        DUE.is("asked() of " + text, x.asked(), due);
+        DUE.is("same(1, 0) of " + text, x.same(1, 0), 1);
     }
 
     private static void sure() {

@@ -12,8 +12,11 @@ final class StateTest {
         unsaid();
         undone();
         orders();
+        ordersStay();
         silentOrders();
         dawns();
+        weeks();
+        farDays();
         marks();
         newLand();
         DUE.end();
@@ -175,6 +178,11 @@ final class StateTest {
         DUE.is("ordered(0, -1)", x.ordered(0, -1), -1);
         DUE.is("ordered(4, 0)", x.ordered(4, 0), -1);
         DUE.is("ordered(-1, 0)", x.ordered(-1, 0), -1);
+        for (int what = 3; what >= 0; what--) {
+            for (int order = 3; order >= 0; order--) {
+                DUE.is("ordered(" + order + ", " + what + ") once more", x.ordered(order, what), due[order][what]);
+            }
+        }
         DUE.is("worlds(1) ahead of all", x.worlds(1), 4);
         x.dawn(1);
         DUE.is("worlds(1) on day 1", x.worlds(1), 1);
@@ -184,6 +192,40 @@ final class StateTest {
         DUE.is("clash() of orders alone", x.clash(), 0);
         DUE.is("count(8)", x.count(8), 4);
         DUE.is("ordered(0, 0) when it has come", x.ordered(0, 0), 1);
+    }
+
+    /** An ORDER comes though many dawns pass at once, binds from then on, and stays one of four. */
+    private static void ordersStay() {
+        OneVerb x = DUE.in(TURNS);
+        x.dawn(1);
+        DUE.is("order(99)", Due.order(x, "a b;", 99), 0);
+        DUE.is("order(3)", Due.order(x, "a b;", 3), 0);
+        DUE.is("ordered(0, 0)", x.ordered(0, 0), 100);
+        DUE.is("ordered(1, 0)", x.ordered(1, 0), 4);
+        x.dawn(2);
+        DUE.is("worlds(1) a day ahead of the ORDER", x.worlds(1), 4);
+        x.mark(0, false);
+        x.dawn(1);
+        DUE.is("worlds(1) on its DAY", x.worlds(1), 2);
+        x.mark(0, true);
+        x.dawn(95);
+        DUE.is("worlds(1) long behind it", x.worlds(1), 2);
+        DUE.is("left(0) by the VERB of its DAY", x.left(0), 1);
+        x.dawn(2);
+        DUE.is("count(6)", x.count(6), 100);
+        DUE.is("left(3) by both", x.left(3), 1);
+        for (int i = 2; i < 4; i++) {
+            DUE.is("order() of " + i, Due.order(x, "a b;", 1), 0);
+        }
+        DUE.is("order() of a fifth, two have come", Due.order(x, "a b;", 1), -3);
+        DUE.is("undo() of the fourth", x.undo(), true);
+        DUE.is("order() of another fourth", Due.order(x, "a a;", 2), 0);
+        DUE.is("ordered(3, 0)", x.ordered(3, 0), 102);
+        DUE.is("ordered(3, 1)", x.ordered(3, 1), 4);
+        DUE.is("undo()", x.undo(), true);
+        DUE.is("undo()", x.undo(), true);
+        DUE.is("undo() of what was ORDERED on another day", x.undo(), false);
+        DUE.is("count(8)", x.count(8), 2);
     }
 
     /** A SILENT DAY: an ORDER for it binds nothing, one told on it has every WORLD for a loophole that a CLAUSE needs. */
@@ -216,6 +258,51 @@ final class StateTest {
         DUE.is("dawn(0)", x.dawn(0), -1);
         DUE.is("dawn(-5)", x.dawn(-5), -1);
         DUE.is("count(6)", x.count(6), 1001);
+    }
+
+    /** A week of one to seven DAYS, again and again; without one the VERBS in turn. */
+    private static void weeks() {
+        String verbs = "places 2;thing a weigh 1;verb u 1;verb v 1;verb w 1;";
+        int[] told = {2, -1, 0, 0, 1, 2, -1};
+        StringBuilder week = new StringBuilder("week");
+        for (int many = 1; many <= 7; many++) {
+            week.append(told[many - 1] < 0 ? " silent" : " " + "uvw".charAt(told[many - 1]));
+            OneVerb x = DUE.in(verbs + week + ";");
+            DUE.is("count(5) of " + week, x.count(5), many);
+            for (int day = 0; day < 16; day++) {
+                DUE.is("verb(" + day + ") of " + week, x.verb(day), told[day % many]);
+            }
+            DUE.is("verb(2147483647) of " + week, x.verb(Integer.MAX_VALUE), told[Integer.MAX_VALUE % many]);
+        }
+        OneVerb turns = DUE.in(verbs);
+        for (int day = 0; day < 9; day++) {
+            DUE.is("verb(" + day + ") in turn", turns.verb(day), day % 3);
+        }
+        DUE.is("verb(-2147483648)", turns.verb(Integer.MIN_VALUE), -1);
+        DUE.is("count(5) in turn", turns.count(5), 0);
+    }
+
+    /** Answers of the last DAY that there is. */
+    private static void farDays() {
+        OneVerb x = DUE.in(TURNS + "week at up silent at;");
+        int last = Integer.MAX_VALUE;
+        Due.ask(x, "a b;");
+        DUE.is("meant(2147483647)", x.meant(last), 2);
+        DUE.is("meant(2147483646)", x.meant(last - 1), 0);
+        DUE.is("same(2147483647, 0)", x.same(last, 0), 1);
+        DUE.is("same(2147483645, 1)", x.same(last - 2, 1), 1);
+        DUE.is("holds(4, 2147483645, 1)", x.holds(4, last - 2, 1), 1);
+        DUE.is("shortest(2147483647, 2)", x.shortest(last, 2), 8);
+        DUE.is("two(2147483647, 2)", x.two(last, 2), 1);
+        for (int i = 0; i < 99; i++) {
+            x.dawn(1000);
+        }
+        DUE.is("count(6)", x.count(6), 99_000);
+        DUE.is("order(99)", Due.order(x, "a b;", 99), 0);
+        DUE.is("ordered(0, 0)", x.ordered(0, 0), 99_099);
+        DUE.is("saying of a far day", Due.say(x, "a b;"), 0);
+        DUE.is("saying(0, 0)", x.saying(0, 0), 99_000);
+        DUE.is("saying(0, 1)", x.saying(0, 1), 2);
     }
 
     private static void marks() {
