@@ -947,21 +947,14 @@ public final class OneVerb {
                     return fail(AGAIN);
                 }
                 wanted |= 1 << verb;
-                if (!readWorth(verb)) {
+                advance();
+                int worth = passNumber(0, 99);
+                if (worth == NONE) {
                     return false;
                 }
+                draft.wantLast(verb, worth);
             }
             return pass(';');
-        }
-
-        private boolean readWorth(int verb) {
-            advance();
-            int worth = passNumber(0, 99);
-            if (worth == NONE) {
-                return false;
-            }
-            draft.wantLast(verb, worth);
-            return true;
         }
 
         private boolean readBribe() {

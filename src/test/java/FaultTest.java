@@ -154,6 +154,7 @@ final class FaultTest {
         land(V + "week ^5;", 1);
         land(V + "week ^u;", 2);
         land(V + "week v ^a;", 2);
+        land(V + "week ^first v;", 2);
         land(V + "week v ^and;", 1);
         land(V + "week ^week;", 1);
         land(V + "week v^", 1);
@@ -177,6 +178,7 @@ final class FaultTest {
         land(V + "speaker s wants ^silent 5;", 1);
         land(V + "speaker s wants ^u 5;", 2);
         land(V + "speaker s wants ^s 5;", 2);
+        land(V + "speaker s wants ^place 5;", 2);
         land(V + "speaker s wants ^a 5;", 2);
         land(V + "speaker s wants v ^;", 1);
         land(V + "speaker s wants v ^w 1;", 1);

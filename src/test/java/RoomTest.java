@@ -51,7 +51,7 @@ final class RoomTest {
     }
 
     private static int questions(OneVerb x) {
-        for (int i = 0; i < 10; i++) {
+        for (int i = 0; i < 8; i++) {
             x.shortest(0, 0);
             x.two(0, 0);
             x.riddle(2);
@@ -64,7 +64,7 @@ final class RoomTest {
             x.mark(i % 4, i % 2 == 1);
             x.worlds(1);
         }
-        return 10 * 11;
+        return 8 * 11;
     }
 
     private static final int NONE = OneVerb.NONE;
