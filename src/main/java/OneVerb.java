@@ -1324,9 +1324,13 @@ public final class OneVerb {
                 }
             }
             for (int verb = 0; verb < many[VERB]; verb++) {
-                for (int pair = 0; pair < many[THING] * many[THING]; pair++) {
-                    int first = pair / many[THING];
-                    int second = pair % many[THING];
+                settleLaws(verb);
+            }
+        }
+
+        private void settleLaws(int verb) {
+            for (int first = 0; first < many[THING]; first++) {
+                for (int second = 0; second < many[THING]; second++) {
                     laws[lawIndex(verb, first, second)] = lawOf(verb, first, second);
                 }
             }
